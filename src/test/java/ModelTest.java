@@ -1,3 +1,5 @@
+import java.util.ArrayList;
+import java.util.List;
 import java.util.Random;
 
 /** Drawn runs of calls, each asked of the program and of the model. */
@@ -30,7 +32,22 @@ public final class ModelTest {
     int below(int n) { return random.nextInt(n); }
     int odd(int n) { return below(25) == 0 ? new int[] {-1, -2, n, n + 1, Integer.MAX_VALUE, Integer.MIN_VALUE}[below(6)] : below(n); }
     int text() { return below(30) == 0 ? odd(4) : below(Math.max(1, m.w.texts.size())); }
-    int field() { return below(3) == 0 ? odd(8) : below(4); }
+    int field() { return below(6) == 0 ? odd(8) : below(4); }
+
+    /** Mostly one that the TEXT tells, of a kind (null: of any). */
+    int fieldOf(int text, String kind) {
+      List<Integer> told = new ArrayList<>();
+      if (m.text(text) != null) for (Model.Clause c : m.text(text).clauses) if (c.field >= 0 && (kind == null || c.kind.equals(kind))) told.add(c.field);
+      return told.isEmpty() || below(6) == 0 ? field() : told.get(below(told.size()));
+    }
+
+    /** A new file: small numbers first, so that what is told by them comes to something. */
+    void fill() {
+      for (int i = 0; i < m.w.now.size && i < 10; i++) {
+        int v = below(4) == 0 ? below(256) : below(5);
+        due("set " + i + " " + v, x.set(i, v), m.set(i, v));
+      }
+    }
     int place() { return below(8) == 0 ? odd(40) : below(Math.max(1, m.w.now.size)); }
 
     void due(String call, long got, long want) {
@@ -53,7 +70,8 @@ public final class ModelTest {
       int a = below(100);
       if (a < 5 || m.w.texts.isEmpty() && a < 40) return giveText();
       if (a < 20) return change();
-      if (a < 24) return raw();
+      if (a < 22) return raw();
+      if (a < 24) { fill(); return 10; }
       if (a < 30) return whole();
       for (int i = 0; i < 3; i++) ask(large);
       return 3;
@@ -106,6 +124,7 @@ public final class ModelTest {
         case 7: v = below(6) == 0 ? odd(61) : 1 + below(5); due("day " + v, x.day(v), m.day(v)); return 1;
         case 8: v = text(); due("played " + v, x.played(v), m.played(v)); return 1;
         case 9: p = odd(10000); v = odd(41); due("years " + p + " " + v, x.years(p, v), m.years(p, v)); return 1;
+        case 10: v = 6 + below(5); due("size " + v, x.size(v), m.size(v)); return 1;
         default: due("undo", x.undo(), m.undo()); return 1;
       }
     }
@@ -125,7 +144,7 @@ public final class ModelTest {
     }
 
     void ask(boolean large) {
-      int t = text(), f = field(), p = place(), q = place(), what = odd(4);
+      int t = text(), f = fieldOf(t, null), p = place(), q = place(), what = odd(4);
       String by = " " + t + " " + f;
       switch (below(30)) {
         case 0: due("at " + p, x.at(p), m.at(p)); return;
@@ -136,7 +155,7 @@ public final class ModelTest {
         case 5: due("field" + by + " " + what, x.field(t, f, what), m.field(t, f, what)); return;
         case 6:
         case 7:
-        case 8: q = field(); due("inside" + by + " " + q + " " + what, x.inside(t, f, q, what), m.inside(t, f, q, what)); return;
+        case 8: f = fieldOf(t, "nest"); by = " " + t + " " + f; q = fieldOf(t, null); due("inside" + by + " " + q + " " + what, x.inside(t, f, q, what), m.inside(t, f, q, what)); return;
         case 9: q = odd(8); due("order " + t + " " + q, x.order(t, q), m.order(t, q)); return;
         case 10: due("ring " + t, x.ring(t), m.ring(t)); return;
         case 11:
@@ -146,7 +165,7 @@ public final class ModelTest {
         case 15:
         case 16: due("needs" + by, x.needs(t, f), m.needs(t, f)); return;
         case 17: due("flips " + t + " " + p, x.flips(t, p), m.flips(t, p)); return;
-        case 18: due("sure" + by, x.sure(t, f), m.sure(t, f)); return;
+        case 18: f = fieldOf(t, "nest"); due("sure" + by, x.sure(t, f), m.sure(t, f)); return;
         case 19: due("least " + t, x.least(t), m.least(t)); return;
         case 20: if (!large || below(20) == 0) make(t, f); return;
         case 21: q = text(); due("alike " + t + " " + q, x.alike(t, q), m.alike(t, q)); return;
