@@ -261,28 +261,30 @@ public final class ByteIntervals {
             return OTHERS;
         }
         for (int i = 0; i < script.clauses && i < CLAUSES; i++) {
-            if (!playClause(script.clauseKinds[i], script.first[i], script.second[i])) {
+            boolean done = true;
+            switch (script.clauseKinds[i]) {
+                case SET:
+                    done = set(script.first[i], script.second[i]);
+                    break;
+                case SIZE:
+                    done = size(script.first[i]);
+                    break;
+                case MEND:
+                    done = mend() != NONE;
+                    break;
+                case DAY:
+                    int pass = Math.min(script.first[i], LAST_DAY - state.now.day);
+                    passDays(pass);
+                    done = pass == script.first[i];
+                    break;
+                default:
+                    break;
+            }
+            if (!done) {
                 return i;
             }
         }
         return NONE;
-    }
-
-    private boolean playClause(int kind, int first, int second) {
-        switch (kind) {
-            case SET:
-                return set(first, second);
-            case SIZE:
-                return size(first);
-            case MEND:
-                return mend() != NONE;
-            case DAY:
-                int pass = Math.min(first, LAST_DAY - state.now.day);
-                passDays(pass);
-                return pass == first;
-            default:
-                return true;
-        }
     }
 
     /** YEARS by a SEED: DAY. */
@@ -624,7 +626,7 @@ public final class ByteIntervals {
         if (format == null) {
             return NONE;
         }
-        return reader.firstUnmet(format, reader.readFile(format, state.now, ALL_FIELDS));
+        return reader.readFile(format, state.now, ALL_FIELDS).unmet;
     }
 
     /** HOW DEEP: the deepest NEST that is read. */
@@ -1024,22 +1026,39 @@ public final class ByteIntervals {
 
     /** Reads a tape as a TEXT, token by token, up to its first FAULT. */
     private static final class Parser {
-        private static final int T_END = 0;
-        private static final int T_NONE = 1;
-        private static final int T_WORD = 2;
-        private static final int T_NUMBER = 3;
-        private static final int T_SIGN = 4;
+        /** The kinds of CLAUSES first, by their numbers: the token of a word is its number here. */
+        private static final String WORDS =
+                "num sum nest must rots set size mend day at of to peek if then else end or and not deep place old ";
+        private static final int T_AT = 9;
+        private static final int T_OF = 10;
+        private static final int T_TO = 11;
+        private static final int T_PEEK = 12;
+        private static final int T_IF = 13;
+        private static final int T_THEN = 14;
+        private static final int T_ELSE = 15;
+        private static final int T_END = 16;
+        private static final int T_OR = 17;
+        private static final int T_AND = 18;
+        private static final int T_NOT = 19;
+        private static final int T_DEEP = 20;
+        private static final int T_PLACE = 21;
+        private static final int T_OLD = 22;
+        /** The token of a FIELD is this and its number. */
+        private static final int T_FIELD = 32;
+        private static final int T_NUMBER = 64;
+        private static final int T_NONE = 65;
+        private static final int T_LENGTH = 66;
+        /** The token of a sign is this and its byte; with = behind it, twice this. */
+        private static final int SIGN = 128;
         private static final String SIGNS = "<>=#+-*/();";
-        /** What is added to a sign that = stands behind. */
-        private static final int AND_SAME = 256;
 
-        private final int[] tape = new int[TAPE];
-        private int length;
-        private int next;
+        private final int[] tokens = new int[TAPE + 1];
+        private final int[] starts = new int[TAPE + 1];
+        private final int[] numbers = new int[TAPE + 1];
+        private int count;
+        /** The token that is come to, and which it is. */
         private int token;
-        private int start;
-        /** Of a NUMBER its value, of a sign its byte. */
-        private int value;
+        private int here;
         private Text into = new Text();
         private int codeLength;
         private int clauseKind;
@@ -1050,20 +1069,20 @@ public final class ByteIntervals {
         private int faultPlace;
 
         /** The FAULT, 0 without. */
-        private int parse(int[] bytes, int count, Text text) {
-            length = Math.max(0, Math.min(count, Math.min(bytes.length, TAPE)));
-            System.arraycopy(bytes, 0, tape, 0, length);
-            next = 0;
+        private int parse(int[] tape, int length, Text text) {
+            split(tape, Math.max(0, Math.min(length, TAPE)));
+            here = 0;
+            token = tokens[0];
             codeLength = 0;
             open = 0;
             fault = 0;
             faultPlace = NONE;
             into = text;
             into.clear();
-            advance();
-            // A CLAUSE has two bytes at least.
-            for (int i = 0; i < TAPE && token != T_END && fault == 0; i++) {
-                readClause();
+            for (int i = 0; i <= TAPE && token != T_LENGTH && fault == 0; i++) {
+                if (readKind() && readRest(into.clauses - 1)) {
+                    take(SIGN + ';');
+                }
             }
             if (fault == 0) {
                 into.sort();
@@ -1072,18 +1091,14 @@ public final class ByteIntervals {
         }
 
         private boolean fail(int number) {
-            if (fault == 0) {
+            if (fault == 0 && here >= 0 && here < starts.length) {
                 fault = number;
-                faultPlace = start;
+                faultPlace = starts[here];
             }
             return false;
         }
 
         // -- Tokens --
-
-        private int byteAt(int place) {
-            return place >= 0 && place < length && place < TAPE ? tape[place] : 0;
-        }
 
         private static boolean isLetter(int c) {
             return c >= 'a' && c <= 'z' || c >= 'A' && c <= 'Z';
@@ -1093,150 +1108,136 @@ public final class ByteIntervals {
             return c >= '0' && c <= '9';
         }
 
-        private void advance() {
-            while (next < length && (byteAt(next) == 32 || byteAt(next) == 10)) {
-                next++;
-            }
-            start = next;
-            int c = byteAt(next);
-            if (next >= length) {
-                token = T_END;
-            } else if (isLetter(c)) {
-                token = T_WORD;
-                while (next < length && isLetter(byteAt(next))) {
-                    next++;
+        private void split(int[] tape, int length) {
+            count = 0;
+            int next = 0;
+            while (next < length && next < tape.length) {
+                int c = tape[next];
+                int stop = next + 1;
+                if (isLetter(c)) {
+                    while (stop < length && stop < tape.length && isLetter(tape[stop])) {
+                        stop++;
+                    }
+                    put(wordToken(tape, next, stop), next, 0);
+                } else if (isDigit(c)) {
+                    int number = c - '0';
+                    while (stop < length && stop < tape.length && isDigit(tape[stop])) {
+                        // One that is too high is told by any other that is.
+                        number = Math.min(number * 10 + tape[stop] - '0', MOST_NUMBER + 1);
+                        stop++;
+                    }
+                    put(T_NUMBER, next, number);
+                } else if ((c == '<' || c == '>') && stop < length && stop < tape.length && tape[stop] == '=') {
+                    put(SIGN * 2 + c, next, 0);
+                    stop++;
+                } else if (c != 32 && c != 10) {
+                    put(signToken(c), next, 0);
                 }
-            } else if (isDigit(c)) {
-                takeNumber();
-            } else {
-                takeSign(c);
+                next = stop;
+            }
+            put(T_LENGTH, length, 0);
+        }
+
+        private void put(int what, int start, int number) {
+            if (count >= 0 && count <= TAPE) {
+                tokens[count] = what;
+                starts[count] = start;
+                numbers[count] = number;
+                count++;
             }
         }
 
-        private void takeNumber() {
-            token = T_NUMBER;
-            value = 0;
-            while (next < length && isDigit(byteAt(next))) {
-                value = Math.min(value * 10 + byteAt(next) - '0', MOST_NUMBER + 1);
-                next++;
-            }
+        private static int signToken(int c) {
+            return c > 0 && c < SIGN && SIGNS.indexOf((char) c) >= 0 ? SIGN + c : T_NONE;
         }
 
-        private void takeSign(int c) {
-            token = c > 0 && c < 128 && SIGNS.indexOf((char) c) >= 0 ? T_SIGN : T_NONE;
-            value = c;
-            next++;
-            if ((c == '<' || c == '>') && byteAt(next) == '=') {
-                value = c + AND_SAME;
-                next++;
+        private static int wordToken(int[] tape, int from, int to) {
+            if (to - from == 1 && from >= 0 && from < tape.length && isField(tape[from] - 'a')) {
+                return T_FIELD + tape[from] - 'a';
             }
-        }
-
-        private boolean isSign(int sign) {
-            return token == T_SIGN && value == sign;
-        }
-
-        private boolean isWord(String word) {
-            if (token != T_WORD || next - start != word.length()) {
-                return false;
-            }
-            for (int i = 0; i < word.length(); i++) {
-                if (byteAt(start + i) != word.charAt(i)) {
-                    return false;
+            int word = 0;
+            int at = from;
+            for (int i = 0; i < WORDS.length(); i++) {
+                char c = WORDS.charAt(i);
+                if (c == ' ' && at == to) {
+                    return word;
                 }
+                if (c == ' ') {
+                    word++;
+                    at = from;
+                } else {
+                    // NONE: the word is another one.
+                    at = at >= 0 && at < to && at < tape.length && tape[at] == c ? at + 1 : NONE;
+                }
+            }
+            return T_NONE;
+        }
+
+        private boolean advance() {
+            if (here >= 0 && here < count - 1 && here < TAPE) {
+                here++;
+                token = tokens[here];
             }
             return true;
         }
 
-        private boolean takeWord(String word) {
-            if (!isWord(word)) {
-                return fail(1);
-            }
-            advance();
-            return true;
+        private boolean take(int wanted) {
+            return token == wanted ? advance() : fail(1);
         }
 
-        /** The FIELD that the token is; NONE: it is none. */
-        private int fieldHere() {
-            int field = byteAt(start) - 'a';
-            return token == T_WORD && next - start == 1 && isField(field) ? field : NONE;
+        private int numberHere() {
+            return token == T_NUMBER && here >= 0 && here <= TAPE ? numbers[here] : NONE;
         }
 
+        /** A step of code is put down: where. */
         private int emit(int op, int rest) {
             int at = codeLength;
-            if (at >= 0 && at < TAPE) {
-                into.code[at] = rest << 5 | op;
-                codeLength = at + 1;
+            if (at < 0 || at >= TAPE) {
+                return 0;
             }
+            into.code[at] = rest << 5 | op;
+            codeLength = at + 1;
             return at;
         }
 
         // -- CLAUSES --
 
-        private int clauseKindHere() {
-            if (isWord("num")) {
-                return NUM;
-            } else if (isWord("sum")) {
-                return SUM;
-            } else if (isWord("nest")) {
-                return NEST;
-            } else if (isWord("must")) {
-                return MUST;
-            } else if (isWord("rots")) {
-                return ROTS;
-            } else if (isWord("set")) {
-                return SET;
-            } else if (isWord("size")) {
-                return SIZE;
-            } else if (isWord("mend")) {
-                return MEND;
-            }
-            return isWord("day") ? DAY : NONE;
-        }
-
-        private boolean readClause() {
-            clauseKind = clauseKindHere();
+        private boolean readKind() {
             int clause = into.clauses;
-            if (clauseKind == NONE) {
+            if (token < NUM || token > DAY) {
                 return fail(1);
             }
-            if (clauseKind == ROTS && into.rotsCode != NONE) {
+            if (token == ROTS && into.rotsCode != NONE) {
                 return fail(4);
             }
             if (clause < 0 || clause >= CLAUSES) {
                 return fail(6);
             }
+            clauseKind = token;
             into.clauseKinds[clause] = clauseKind;
             into.first[clause] = 0;
             into.second[clause] = 0;
             into.clauses = clause + 1;
             named = 0;
             swayed = 0;
-            advance();
-            if (!readRest(clause)) {
-                return false;
-            }
-            if (!isSign(';')) {
-                return fail(1);
-            }
-            advance();
-            return true;
+            return advance();
         }
 
         private boolean readRest(int clause) {
+            if (clause < 0 || clause >= CLAUSES) {
+                return false;
+            }
             switch (clauseKind) {
                 case MUST:
                     into.first[clause] = codeLength;
-                    boolean either = readEither();
-                    emit(OP_END, 0);
+                    boolean either = readEither() && emit(OP_END, 0) >= 0;
                     into.second[clause] = named;
                     return either;
                 case ROTS:
                     into.rotsCode = codeLength;
-                    return readWholeSum();
+                    return readSum() && emit(OP_END, 0) >= 0;
                 case SET:
-                    into.first[clause] = value;
-                    return readNumber(0, PLACES - 1, into.first, clause) && takeWord("to")
+                    return readNumber(0, PLACES - 1, into.first, clause) && take(T_TO)
                             && readNumber(0, BYTES - 1, into.second, clause);
                 case SIZE:
                     return readNumber(0, PLACES, into.first, clause);
@@ -1250,21 +1251,21 @@ public final class ByteIntervals {
         }
 
         private boolean readNumber(int least, int most, int[] row, int i) {
-            if (token != T_NUMBER) {
+            int number = numberHere();
+            if (number == NONE) {
                 return fail(1);
             }
-            if (value < least || value > most) {
+            if (number < least || number > most) {
                 return fail(2);
             }
             if (i >= 0 && i < row.length) {
-                row[i] = value;
+                row[i] = number;
             }
-            advance();
-            return true;
+            return advance();
         }
 
         private boolean readField() {
-            int field = fieldHere();
+            int field = token - T_FIELD;
             if (!isField(field)) {
                 return fail(1);
             }
@@ -1274,34 +1275,19 @@ public final class ByteIntervals {
             into.told |= 1 << field;
             into.kinds[field] = clauseKind;
             advance();
-            if (!readPart("at", into.atCode, field)) {
-                return false;
-            }
-            if (clauseKind == SUM && !readPart("of", into.ofCode, field)) {
-                return false;
-            }
-            if (!readPart("to", into.toCode, field)) {
-                return false;
-            }
+            boolean read = readPart(T_AT, into.atCode, field)
+                    && (clauseKind != SUM || readPart(T_OF, into.ofCode, field))
+                    && readPart(T_TO, into.toCode, field);
             into.hangs[field] = named;
             into.swayed[field] = swayed;
-            return true;
+            return read;
         }
 
-        private boolean readPart(String word, int[] codes, int field) {
-            if (!takeWord(word)) {
-                return false;
-            }
+        private boolean readPart(int word, int[] codes, int field) {
             if (field >= 0 && field < codes.length) {
                 codes[field] = codeLength;
             }
-            return readWholeSum();
-        }
-
-        private boolean readWholeSum() {
-            boolean sum = readSum();
-            emit(OP_END, 0);
-            return sum;
+            return take(word) && readSum() && emit(OP_END, 0) >= 0;
         }
 
         // -- SUMS: what stands open around a ONE is bounded by FAULT 3, and the calls with it --
@@ -1311,81 +1297,46 @@ public final class ByteIntervals {
                 return fail(3);
             }
             open++;
-            advance();
+            return advance();
+        }
+
+        private boolean closes() {
+            open--;
             return true;
         }
 
         private boolean readSum() {
-            if (!readProduct()) {
-                return false;
+            boolean read = readProduct();
+            for (int i = 0; i < TAPE && read && (token == SIGN + '+' || token == SIGN + '-'); i++) {
+                int op = token == SIGN + '+' ? OP_PLUS : OP_MINUS;
+                read = advance() && readProduct() && emit(op, 0) >= 0;
             }
-            for (int i = 0; i < TAPE && (isSign('+') || isSign('-')); i++) {
-                int op = value == '+' ? OP_PLUS : OP_MINUS;
-                advance();
-                if (!readProduct()) {
-                    return false;
-                }
-                emit(op, 0);
-            }
-            return true;
+            return read;
         }
 
         private boolean readProduct() {
-            if (!readOne()) {
-                return false;
+            boolean read = readOne();
+            for (int i = 0; i < TAPE && read && (token == SIGN + '*' || token == SIGN + '/'); i++) {
+                int op = token == SIGN + '*' ? OP_TIMES : OP_OVER;
+                read = advance() && readOne() && emit(op, 0) >= 0;
             }
-            for (int i = 0; i < TAPE && (isSign('*') || isSign('/')); i++) {
-                int op = value == '*' ? OP_TIMES : OP_OVER;
-                advance();
-                if (!readOne()) {
-                    return false;
-                }
-                emit(op, 0);
-            }
-            return true;
+            return read;
         }
 
         private boolean readOne() {
-            if (token == T_NUMBER) {
-                if (value > MOST_NUMBER) {
-                    return fail(2);
-                }
-                emit(OP_NUMBER, value);
-                advance();
-                return true;
+            switch (token) {
+                case SIGN + '(':
+                    return opens() && readSum() && take(SIGN + ')') && closes();
+                case SIGN + '-':
+                    return opens() && readOne() && closes() && emit(OP_NEGATE, 0) >= 0;
+                case T_PEEK:
+                    swayed = 1;
+                    return opens() && readOne() && closes() && emit(OP_PEEK, 0) >= 0;
+                case T_IF:
+                    return readIf();
+                default:
+                    return readName();
             }
-            if (isSign('(')) {
-                return readGroup();
-            }
-            if (isSign('-')) {
-                return readAround(OP_NEGATE);
-            }
-            if (isWord("peek")) {
-                swayed = 1;
-                return readAround(OP_PEEK);
-            }
-            return isWord("if") ? readIf() : readName();
-        }
-
-        private boolean readGroup() {
-            if (!opens() || !readSum()) {
-                return false;
-            }
-            if (!isSign(')')) {
-                return fail(1);
-            }
-            open--;
-            advance();
-            return true;
-        }
-
-        private boolean readAround(int op) {
-            if (!opens() || !readOne()) {
-                return false;
-            }
-            open--;
-            emit(op, 0);
-            return true;
         }
 
         private boolean readIf() {
@@ -1393,21 +1344,16 @@ public final class ByteIntervals {
                 return false;
             }
             int skipThen = emit(OP_SKIP_IF_NOT, 0);
-            if (!takeWord("then") || !readSum()) {
+            if (!take(T_THEN) || !readSum()) {
                 return false;
             }
             int skipElse = emit(OP_SKIP, 0);
             aim(skipThen);
-            if (!takeWord("else") || !readSum()) {
+            if (!take(T_ELSE) || !readSum()) {
                 return false;
             }
             aim(skipElse);
-            if (!isWord("end")) {
-                return fail(1);
-            }
-            open--;
-            advance();
-            return true;
+            return take(T_END) && closes();
         }
 
         /** A step that skips leads to what comes next. */
@@ -1417,74 +1363,56 @@ public final class ByteIntervals {
             }
         }
 
+        /** A NUMBER or a NAME. */
         private boolean readName() {
-            int field = fieldHere();
+            int field = token - T_FIELD;
             boolean law = clauseKind == ROTS;
-            if (field != NONE) {
-                named |= 1 << field;
-                return takeName(OP_FIELD, field, !law);
+            if (token == T_NUMBER) {
+                return numberHere() > MOST_NUMBER ? fail(2) : emit(OP_NUMBER, numberHere()) >= 0 && advance();
             }
-            if (isWord("size")) {
-                return takeName(OP_SIZE, 0, true);
+            if (token == SIZE) {
+                return emit(OP_SIZE, 0) >= 0 && advance();
             }
-            if (isWord("deep")) {
-                swayed = 1;
-                return takeName(OP_DEEP, 0, !law);
+            if (!isField(field) && token != T_DEEP && token != DAY && token != T_PLACE && token != T_OLD) {
+                return fail(1);
             }
-            if (isWord("day")) {
-                return takeName(OP_DAY, 0, law);
-            }
-            if (isWord("place")) {
-                return takeName(OP_PLACE, 0, law);
-            }
-            return isWord("old") ? takeName(OP_OLD, 0, law) : fail(1);
-        }
-
-        private boolean takeName(int op, int rest, boolean ofClause) {
-            if (!ofClause) {
+            boolean ofFormat = isField(field) || token == T_DEEP;
+            if (law == ofFormat) {
                 return fail(5);
             }
-            emit(op, rest);
-            advance();
-            return true;
+            if (isField(field)) {
+                named |= 1 << field;
+                emit(OP_FIELD, field);
+            } else if (token == T_DEEP) {
+                swayed = 1;
+                emit(OP_DEEP, 0);
+            } else if (token == DAY) {
+                emit(OP_DAY, 0);
+            } else {
+                emit(token == T_PLACE ? OP_PLACE : OP_OLD, 0);
+            }
+            return advance();
         }
 
         private boolean readEither() {
-            if (!readBoth()) {
-                return false;
+            boolean read = readBoth();
+            for (int i = 0; i < TAPE && read && token == T_OR; i++) {
+                read = advance() && readBoth() && emit(OP_OR, 0) >= 0;
             }
-            for (int i = 0; i < TAPE && isWord("or"); i++) {
-                advance();
-                if (!readBoth()) {
-                    return false;
-                }
-                emit(OP_OR, 0);
-            }
-            return true;
+            return read;
         }
 
         private boolean readBoth() {
-            if (!readAsk()) {
-                return false;
+            boolean read = readAsk();
+            for (int i = 0; i < TAPE && read && token == T_AND; i++) {
+                read = advance() && readAsk() && emit(OP_AND, 0) >= 0;
             }
-            for (int i = 0; i < TAPE && isWord("and"); i++) {
-                advance();
-                if (!readAsk()) {
-                    return false;
-                }
-                emit(OP_AND, 0);
-            }
-            return true;
+            return read;
         }
 
         private boolean readAsk() {
-            if (isWord("not")) {
-                if (!opens() || !readAsk()) {
-                    return false;
-                }
-                open--;
-                emit(OP_NOT, 0);
-                return true;
+            if (token == T_NOT) {
+                return opens() && readAsk() && closes() && emit(OP_NOT, 0) >= 0;
             }
             if (!readSum()) {
                 return false;
@@ -1493,30 +1421,22 @@ public final class ByteIntervals {
             if (op == NONE) {
                 return fail(1);
             }
-            advance();
-            if (!readSum()) {
-                return false;
-            }
-            emit(op, 0);
-            return true;
+            return advance() && readSum() && emit(op, 0) >= 0;
         }
 
         private int comparisonHere() {
-            if (token != T_SIGN) {
-                return NONE;
-            }
-            switch (value) {
-                case '<':
+            switch (token) {
+                case SIGN + '<':
                     return OP_LESS;
-                case '<' + AND_SAME:
+                case SIGN * 2 + '<':
                     return OP_LESS_SAME;
-                case '>':
+                case SIGN + '>':
                     return OP_MORE;
-                case '>' + AND_SAME:
+                case SIGN * 2 + '>':
                     return OP_MORE_SAME;
-                case '=':
+                case SIGN + '=':
                     return OP_SAME;
-                case '#':
+                case SIGN + '#':
                     return OP_UNLIKE;
                 default:
                     return NONE;
@@ -1537,6 +1457,8 @@ public final class ByteIntervals {
         private final int[] tos = new int[FIELDS];
         /** The places of THE FILE that each FIELD itself looks at. */
         private final long[] looks = new long[FIELDS];
+        /** The first must that is not, and what all of them look at. */
+        private int unmet;
         private long mustLooks;
 
         /** At first every FIELD told is BROKEN. */
@@ -1547,6 +1469,7 @@ public final class ByteIntervals {
             told = fields;
             broken = fields;
             wrong = 0;
+            unmet = NONE;
             mustLooks = 0;
             for (int f = 0; f < FIELDS; f++) {
                 int none = hasBit(told, f) ? NONE : 0;
@@ -1573,6 +1496,11 @@ public final class ByteIntervals {
                 return BROKEN;
             }
             return hasBit(wrong, field) ? WRONG : RIGHT;
+        }
+
+        /** No FIELD told is BROKEN or WRONG, and each must is. */
+        private boolean isSound() {
+            return broken == 0 && wrong == 0 && unmet == NONE;
         }
 
         /** Told, and not BROKEN. */
@@ -1663,8 +1591,9 @@ public final class ByteIntervals {
 
         /** Likewise, but for values alone: nothing that just makes a FIELD WRONG is looked at. */
         private Reading readValues(Text text, Moment file, int wanted) {
+            bytes = file.bytes;
             valuesOnly = true;
-            Reading reading = readFile(text, file, wanted);
+            Reading reading = readFormat(text, 0, 0, file.size, wanted);
             valuesOnly = false;
             return reading;
         }
@@ -1680,7 +1609,7 @@ public final class ByteIntervals {
             }
             bytes = file;
             Reading reading = readFormat(text, 0, 0, size, ALL_FIELDS);
-            return reading.broken == 0 && reading.wrong == 0 && firstUnmet(text, reading) == NONE;
+            return reading.isSound();
         }
 
         private Reading readFormat(Text text, int deep, int base, int size, int wanted) {
@@ -1691,6 +1620,9 @@ public final class ByteIntervals {
                 if (isField(field) && hasBit(wanted, field)) {
                     readField(text, reading, field);
                 }
+            }
+            if (wanted == ALL_FIELDS) {
+                askMusts(text, reading);
             }
             return reading;
         }
@@ -1752,35 +1684,28 @@ public final class ByteIntervals {
             // In the deepest one NESTS are BROKEN: no value hangs on what is in it.
             int nestsAlone = deep < DEEPEST ? text.nestNeeds : 0;
             Reading inner = readFormat(text, deep, in.base + from, to - from, valuesOnly ? nestsAlone : ALL_FIELDS);
-            boolean met = valuesOnly || firstUnmet(text, inner) == NONE;
             int value = 1;
             for (int f = 0; f < FIELDS; f++) {
                 value += text.kinds[f] == NEST && inner.isKnown(f) ? inner.values[f] : 0;
             }
             know(in, field, from, to, value);
             in.looks[field] |= inner.looksOf(ALL_FIELDS) | inner.mustLooks;
-            in.wrong |= met && inner.broken == 0 && inner.wrong == 0 ? 0 : 1 << field;
+            in.wrong |= inner.isSound() ? 0 : 1 << field;
         }
 
-        /** The first must that is not; all of them are asked, for what they look at. */
-        private int firstUnmet(Text text, Reading in) {
-            int unmet = NONE;
+        /** All of them are asked, behind one that is not, too, for what they look at. */
+        private void askMusts(Text text, Reading in) {
             for (int i = 0; i < text.clauses && i < CLAUSES; i++) {
-                if (text.clauseKinds[i] == MUST && !isMet(text, i, in) && unmet == NONE) {
-                    unmet = i;
+                if (text.clauseKinds[i] == MUST) {
+                    boolean met = false;
+                    if ((text.second[i] & in.broken) == 0) {
+                        peeked = 0;
+                        met = answer(text, text.first[i], in) != 0;
+                        in.mustLooks |= peeked;
+                    }
+                    in.unmet = !met && in.unmet == NONE ? i : in.unmet;
                 }
             }
-            return unmet;
-        }
-
-        private boolean isMet(Text text, int clause, Reading in) {
-            if (clause < 0 || clause >= CLAUSES || (text.second[clause] & in.broken) != 0) {
-                return false;
-            }
-            peeked = 0;
-            boolean met = answer(text, text.first[clause], in) != 0;
-            in.mustLooks |= peeked;
-            return met;
         }
 
         /** Whether a NEST that names no FIELD is shorter than an interval of n bytes, or is not in it. */

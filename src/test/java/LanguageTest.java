@@ -1,3 +1,5 @@
+import java.io.PrintWriter;
+import java.io.StringWriter;
 import java.lang.reflect.Constructor;
 import java.lang.reflect.Field;
 import java.lang.reflect.Method;
@@ -7,10 +9,13 @@ import java.nio.file.Path;
 import java.util.ArrayList;
 import java.util.Arrays;
 import java.util.List;
+import java.util.Map;
 import java.util.Set;
+import java.util.TreeMap;
 import java.util.TreeSet;
 import java.util.regex.Matcher;
 import java.util.regex.Pattern;
+import java.util.spi.ToolProvider;
 
 /** What of LANGUAGE.md can be seen from the source and the classes: run from the project's folder. */
 public final class LanguageTest {
@@ -29,6 +34,7 @@ public final class LanguageTest {
     String code = bare(Files.readString(Path.of("src/main/java/ByteIntervals.java"), java.nio.charset.StandardCharsets.UTF_8));
     words(code);
     methods(code);
+    depth();
     Check.close();
   }
 
@@ -121,5 +127,55 @@ public final class LanguageTest {
       Check.due("makes: " + lines[i].trim(), makes, false);
     }
     Check.due("methods seen", seen > 100, true);
+  }
+
+  /** How deep calls go, by the byte code: methods that call one another around count as one. */
+  private static void depth() {
+    Map<String, Set<String>> calls = new TreeMap<>();
+    for (Class<?> c : all()) {
+      StringWriter told = new StringWriter();
+      String file = c.getName().replace('.', '/') + ".class";
+      String path = c.getResource("/" + file).getPath();
+      ToolProvider.findFirst("javap").orElseThrow().run(new PrintWriter(told), new PrintWriter(System.out), "-c", "-p", "-s", path);
+      String method = null;
+      for (String line : told.toString().split("\n")) {
+        Matcher m = Pattern.compile("^  (?:private |public |static |final )*[\\w$.\\[\\]]+(?: (\\w+))?\\(.*\\);$").matcher(line);
+        if (m.find()) method = c.getName() + "." + (m.group(1) == null ? "new" : m.group(1));
+        m = Pattern.compile("// Method (?:(ByteIntervals[\\w$]*)\\.)?\"?(\\w+|<init>)\"?:").matcher(line);
+        if (m.find() && method != null) {
+          String name = m.group(2).equals("<init>") ? "new" : m.group(2);
+          calls.computeIfAbsent(method, k -> new TreeSet<>()).add((m.group(1) == null ? c.getName() : m.group(1)) + "." + name);
+        }
+      }
+    }
+    Check.due("calls seen", calls.size() > 80, true);
+    String[] deepest = {""};
+    for (String method : calls.keySet()) chain(calls, method, method, 1, new TreeSet<>(Set.of(method)), deepest);
+    int depth = deepest[0].split(" ").length;
+    System.out.println("deepest calls: " + deepest[0]);
+    Check.due("deep: " + deepest[0], depth <= 8, true);
+  }
+
+  private static boolean reaches(Map<String, Set<String>> calls, String from, String to, Set<String> seen) {
+    for (String next : calls.getOrDefault(from, Set.of())) {
+      if (next.equals(to) || seen.add(next) && reaches(calls, next, to, seen)) return true;
+    }
+    return false;
+  }
+
+  private static void chain(Map<String, Set<String>> calls, String method, String told, int depth, Set<String> open, String[] deepest) {
+    if (depth > deepest[0].split(" ").length || deepest[0].isEmpty()) deepest[0] = told;
+    // What calls one another around is gone through as one.
+    Set<String> around = new TreeSet<>(Set.of(method));
+    for (String other : calls.keySet()) {
+      if (reaches(calls, method, other, new TreeSet<>()) && reaches(calls, other, method, new TreeSet<>())) around.add(other);
+    }
+    for (String member : around) {
+      for (String next : calls.getOrDefault(member, Set.of())) {
+        if (around.contains(next) || !open.add(next)) continue;
+        chain(calls, next, told + " " + next, depth + 1, open, deepest);
+        open.remove(next);
+      }
+    }
   }
 }

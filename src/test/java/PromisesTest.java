@@ -361,19 +361,22 @@ public final class PromisesTest {
     due("none can pass", x.day(1), -1);
     x.size(4);
     due("foretold: none passes", x.foretold(60, 0), 0);
-    due("played: none passes", Check.text(x, "mend;day 1;"), 0);
+    due("of rot alone", Check.text(x, "rots 10;"), 0);
     x.by(0);
+    for (int p = 0; p < 4; p++) due("none passes: " + p, x.foretold(60, p), 0);
+    due("played: none passes", Check.text(x, "mend;day 1;"), 1);
+    x.by(1);
     // mend can't be: no SUM.
-    due("its mend", x.played(0), 0);
-    due("text", Check.text(x, "day 1;"), 1);
-    due("its day", x.played(1), 0);
+    due("its mend", x.played(1), 0);
+    due("text", Check.text(x, "day 1;"), 2);
+    due("its day", x.played(2), 0);
     due("DAY still", x.is(0), 9999);
     x.undo();
     x.undo();
     x.undo();
     due("DAY 9997", x.is(0), 9997);
-    due("text", Check.text(x, "day 1;day 3;day 1;"), 2);
-    due("those that can pass do", x.played(2), 1);
+    due("text", Check.text(x, "day 1;day 3;day 1;"), 3);
+    due("those that can pass do", x.played(3), 1);
     due("DAY 9999", x.is(0), 9999);
     x.undo();
     due("years at 9998", x.years(3, 40), 9999);
@@ -773,6 +776,12 @@ public final class PromisesTest {
     due("below", x.flips(0, -1), -1);
     due("others", x.flips(1, 0), -1);
     due("as it was", x.at(0), 1);
+    x = with("num a at 0 to if peek 0=250 then 0 else 1 end;num b at if peek 0<255 then 0 else 1 end to 1;", 5);
+    due("255 less 5 is 250", x.flips(0, 0), 3);
+    x.set(0, 6);
+    due("255 less 6 is not", x.flips(0, 0), 3);
+    x = with("num a at 0 to if peek 0=250 then 0 else 0 end;num b at 0*peek 0 to 0;num c at if peek 0=250 or peek 0=5 then 0 else 1 end to 1;must 1=1;", 5);
+    due("of none all is as it was", x.flips(0, 0), 0);
   }
 
   private static void sure() {
