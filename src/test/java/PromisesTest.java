@@ -780,7 +780,7 @@ public final class PromisesTest {
     due("255 less 5 is 250", x.flips(0, 0), 3);
     x.set(0, 6);
     due("255 less 6 is not", x.flips(0, 0), 3);
-    x = with("num a at 0 to if peek 0=250 then 0 else 0 end;num b at 0*peek 0 to 0;num c at if peek 0=250 or peek 0=5 then 0 else 1 end to 1;must 1=1;", 5);
+    x = with("num a at 0 to if peek 0=250 then 0 else 0 end;num b at 0*peek 0 to 0;num c at if peek 0=250 or peek 0=5 then 1 else 0 end to 1;must 1=1;", 5);
     due("of none all is as it was", x.flips(0, 0), 0);
   }
 
