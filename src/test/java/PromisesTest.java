@@ -411,6 +411,20 @@ public final class PromisesTest {
     x.day(60);
     due("just the one byte rotted", x.ledger(3), 1);
     due("the other did not", x.at(1), 0);
+    // It peeks at THE FILE as it is then: not as it was mended or read last, and as it is foretold.
+    x = with("sum a at 0 of 0 to 0;rots if peek 0=7 then 10 else 0 end;", 3, 0);
+    x.by(0);
+    due("mended", x.mend(), 1);
+    x.set(0, 7);
+    due("by the byte that is now", x.day(1), 1);
+    x = with("sum a at 0 of 0 to 0;rots if peek 0=peek 1 then 10 else 0 end;", 0, 0);
+    x.by(0);
+    due("mended", x.mend(), 0);
+    int first = x.foretold(1, 0) * 256 + x.foretold(1, 1);
+    due("one day rots", first != 0, true);
+    due("no other does", x.foretold(60, 0) * 256 + x.foretold(60, 1), first);
+    x.day(60);
+    due("as foretold", x.at(0) * 256 + x.at(1), first);
   }
 
   private static void played() {
@@ -837,6 +851,20 @@ public final class PromisesTest {
     due("as it is: none", x.make(0, 0, 0), -1);
     due("high", x.make(0, 0, 16711680), 255);
     due("low", x.make(0, 0, 255), 512 + 255);
+    x = with("num a at 0 to 3;sum b at 0 of 1 to 3;", 255, 255, 0);
+    due("the highest number", x.make(0, 0, 16777215), 512 + 255);
+    due("the highest sum: not by its own byte", x.make(0, 1, 255), 0);
+    x.set(2, 9);
+    due("the highest sum", x.make(0, 1, 255), 256 + 246);
+    StringBuilder all = new StringBuilder("nest a at 1 to size;");
+    for (int f = 1; f < 8; f++) all.append("nest ").append((char) ('a' + f)).append(" at peek 0 to 1;");
+    x = with(all.toString(), 9, 9, 9);
+    due("the highest nest", x.make(0, 0, 9), 256);
+    due("eight in it", x.make(0, 0, 8), -1);
+    due("one in it", x.make(0, 0, 2), 0);
+    x = with(all.toString(), 9, 1, 9);
+    due("all in it", x.field(0, 0, 0), 9);
+    due("the highest nest", x.make(0, 0, 9), 0);
   }
 
   private static void alike() {
