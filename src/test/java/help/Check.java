@@ -19,6 +19,8 @@ final class Check {
 
   static int wrong() { return wrong; }
 
+  static int asked() { return asked; }
+
   static void close() {
     System.out.println(asked + " answers, " + wrong + " not as due");
     if (wrong != 0 || asked == 0) System.exit(1);
